@@ -998,6 +998,9 @@ public final class ClaySeals {
         private void leave(int place) {
             int others = ~(1 << place);
             members[choices.ring[chosen[place]]] &= others;
+            if ((before[place] | after[place]) == 0) {
+                return;
+            }
             for (int other = 0; other < choices.places; other++) {
                 before[other] &= others;
                 after[other] &= others;
@@ -1014,6 +1017,9 @@ public final class ClaySeals {
             // One that is in no order with others has a DAY of its own, as it CAN BE of the RING.
             if ((before[place] | after[place]) == 0) {
                 return true;
+            }
+            if ((before[place] & after[place]) != 0) {
+                return false;
             }
             int left = members[choices.ring[chosen[place]]];
             for (int step = 0; step < MOST_LED && left != 0; step++) {
@@ -1200,7 +1206,7 @@ public final class ClaySeals {
             return (1 << choices.places) - (1 << place);
         }
 
-        /** Goes on only where the rest can follow, so that each step ends in a WAY. */
+        /** Goes on only where the rest can follow; whether the last one can is seen soon enough. */
         private void lead(int place, int stones) {
             if (place >= choices.places) {
                 tell(Integer.bitCount(stones));
@@ -1209,17 +1215,20 @@ public final class ClaySeals {
             int end = choices.endOf(place, MOST_RINGS - 1);
             for (int choice = choices.startOf(place, 0); choice < end && found < MOST_WAYS; choice++) {
                 int ring = choices.ring[choice];
+                int had = found;
                 int changedAt = followers.changedAt[ring];
                 groups.enter(place, choice);
                 if (groups.agree(place)) {
                     followers.change(ring, place + 1);
-                    if (followers.canAllFollow(placesFrom(place + 1))) {
-                        ringsOf[choices.lumpAt[place]] |= 1 << ring;
+                    if (place + 2 >= choices.places || followers.canAllFollow(placesFrom(place + 1))) {
                         lead(place + 1, stones | 1 << stone[ring]);
                     }
-                    followers.changedAt[ring] = changedAt;
                 }
+                followers.changedAt[ring] = changedAt;
                 groups.leave(place);
+                if (found > had) {
+                    ringsOf[choices.lumpAt[place]] |= 1 << ring;
+                }
             }
         }
 
