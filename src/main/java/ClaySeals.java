@@ -78,7 +78,14 @@ public final class ClaySeals {
     }
 
     public int held(int ring, int person, int from, int to) {
-        return takeHeld(ring, person, from, to);
+        if (!isRing(ring) || !isBelow(person, PERSONS) || !areDays(from, to)) {
+            return BAD;
+        }
+        if (rings.heldTotal >= MOST_HELD) {
+            return FULL;
+        }
+        leading.forget();
+        return rings.hold(ring, person, daysBetween(from, to));
     }
 
     public int read(int s) {
@@ -90,9 +97,9 @@ public final class ClaySeals {
         }
         int taken = 0;
         for (int i = 0; i + 3 < sheets.size[s]; i += 4) {
-            int answer = takeHeld(sheets.item(s, i), sheets.item(s, i + 1), sheets.item(s, i + 2),
-                sheets.item(s, i + 3));
-            if (answer < 0) {
+            int ring = sheets.item(s, i);
+            int person = sheets.item(s, i + 1);
+            if (held(ring, person, sheets.item(s, i + 2), sheets.item(s, i + 3)) < 0) {
                 return taken;
             }
             taken++;
@@ -499,17 +506,6 @@ public final class ClaySeals {
 
     // ---- what the acts share
 
-    private int takeHeld(int ring, int person, int from, int to) {
-        if (!isRing(ring) || !isBelow(person, PERSONS) || !areDays(from, to)) {
-            return BAD;
-        }
-        if (rings.heldTotal >= MOST_HELD) {
-            return FULL;
-        }
-        leading.forget();
-        return rings.hold(ring, person, daysBetween(from, to));
-    }
-
     private void forgetLumps() {
         leading.forget();
         strangers.forget();
@@ -567,11 +563,11 @@ public final class ClaySeals {
     }
 
     private static boolean hasBit(int bits, int place) {
-        return (bits >> place & 1) != 0;
+        return ((bits >> place) & 1) != 0;
     }
 
     private static long daysBetween(int from, int to) {
-        return (1L << to - from + 1) - 1 << from;
+        return ((1L << (to - from + 1)) - 1) << from;
     }
 
     private static int longestHole(long days) {
@@ -579,7 +575,7 @@ public final class ClaySeals {
         int run = 0;
         boolean begun = false;
         for (int day = 0; day < DAYS; day++) {
-            if ((days >> day & 1) != 0) {
+            if (((days >> day) & 1) != 0) {
                 longest = begun ? Math.max(longest, run) : 0;
                 begun = true;
                 run = 0;
@@ -596,7 +592,7 @@ public final class ClaySeals {
             int next = 0;
             for (int cell = 0; cell < CELLS; cell++) {
                 if (hasBit(now, cell)) {
-                    next |= 1 << 4 * (cell & 3) + 3 - (cell >> 2);
+                    next |= 1 << (4 * (cell & 3) + 3 - (cell >> 2));
                 }
             }
             now = next;
@@ -668,7 +664,7 @@ public final class ClaySeals {
         }
 
         private void show(int sign, int cell, int times) {
-            int cells = (1 << times) - 1 << cell;
+            int cells = ((1 << times) - 1) << cell;
             if (sign == '#') {
                 marks |= cells;
             } else if (sign == '?') {
@@ -792,9 +788,9 @@ public final class ClaySeals {
 
         private int add(int shown, int hidden) {
             int lump = total;
-            int none = (1 << CELLS) - 1 & ~shown & ~hidden;
+            int none = ((1 << CELLS) - 1) & ~shown & ~hidden;
             for (int turned = 0; turned < TURNS; turned++) {
-                int home = TURNS - turned & 3;
+                int home = (TURNS - turned) % TURNS;
                 marks[lump * TURNS + turned] = turnedRight(shown, home);
                 blanks[lump * TURNS + turned] = turnedRight(none, home);
             }
@@ -980,7 +976,7 @@ public final class ClaySeals {
         private void enter(int place, int choice) {
             int others = members[choices.ring[choice]];
             for (int other = 0; other < choices.places; other++) {
-                if ((others >> other & 1) != 0) {
+                if (((others >> other) & 1) != 0) {
                     if ((choices.whole[chosen[other]] & choices.chipped[choice]) != 0) {
                         before[place] |= 1 << other;
                         after[other] |= 1 << place;
@@ -992,7 +988,7 @@ public final class ClaySeals {
                 }
             }
             chosen[place] = choice;
-            members[choices.ring[choice]] = others | 1 << place;
+            members[choices.ring[choice]] = others | (1 << place);
         }
 
         private void leave(int place) {
@@ -1024,7 +1020,7 @@ public final class ClaySeals {
             int left = members[choices.ring[chosen[place]]];
             for (int step = 0; step < MOST_LED && left != 0; step++) {
                 int next = 0;
-                while (next < choices.places && ((left >> next & 1) == 0 || (before[next] & left) != 0)) {
+                while (next < choices.places && (((left >> next) & 1) == 0 || (before[next] & left) != 0)) {
                     next++;
                 }
                 if (next >= choices.places) {
@@ -1032,11 +1028,11 @@ public final class ClaySeals {
                 }
                 int first = 0;
                 for (int other = 0; other < choices.places; other++) {
-                    if ((before[next] >> other & 1) != 0 && day[other] > first) {
+                    if (((before[next] >> other) & 1) != 0 && day[other] > first) {
                         first = day[other];
                     }
                 }
-                long open = choices.days[chosen[next]] >> first << first;
+                long open = (choices.days[chosen[next]] >> first) << first;
                 if (open == 0) {
                     return false;
                 }
@@ -1071,7 +1067,7 @@ public final class ClaySeals {
         private void change(int ring, int places) {
             changedAt[ring] = places;
             int first = tableOf(ring);
-            int end = first + (1 << MOST_LED - places);
+            int end = first + (1 << (MOST_LED - places));
             for (int entry = first; entry < end; entry++) {
                 answers[entry] = 0;
             }
@@ -1100,7 +1096,7 @@ public final class ClaySeals {
             }
             for (int ring = 0; ring < MOST_RINGS; ring++) {
                 int had = taken[ring];
-                int with = had | 1 << place;
+                int with = had | (1 << place);
                 int entry = tableOf(ring) + (with >> changedAt[ring]);
                 if (answers[entry] == 0) {
                     answers[entry] = canBeTurned(ring, with, 0) ? YES : NO;
@@ -1135,7 +1131,7 @@ public final class ClaySeals {
 
         private int nextOf(int set, int from) {
             int place = from;
-            while (place < choices.places && (set >> place & 1) == 0) {
+            while (place < choices.places && ((set >> place) & 1) == 0) {
                 place++;
             }
             return place;
@@ -1221,7 +1217,7 @@ public final class ClaySeals {
                 if (groups.agree(place)) {
                     followers.change(ring, place + 1);
                     if (place + 2 >= choices.places || followers.canAllFollow(placesFrom(place + 1))) {
-                        lead(place + 1, stones | 1 << stone[ring]);
+                        lead(place + 1, stones | (1 << stone[ring]));
                     }
                 }
                 followers.changedAt[ring] = changedAt;

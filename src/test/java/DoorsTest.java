@@ -11,6 +11,7 @@ public final class DoorsTest {
         gapRefused();
         clean();
         cleanByStones();
+        cleanByStonesAtTheEdge();
         cleanByCells();
         cleanRefused();
         CHECKS.finish();
@@ -134,6 +135,20 @@ public final class DoorsTest {
         x.anew(2, 1, 0);
         Checks.lump(x, "?*16", 0, 0);
         CHECKS.due("clean() counts STONES, not RINGS", x.clean(), 3);
+    }
+
+    /** Three STONES and one cell go ahead of two STONES and all 16 cells. */
+    private static void cleanByStonesAtTheEdge() {
+        ClaySeals x = new ClaySeals();
+        Checks.ring(x, "##.*14");
+        Checks.ring(x, "##.*14");
+        Checks.ring(x, "##.*14");
+        x.held(2, 0, 30, 59);
+        Checks.lump(x, "?*16", 0, 29);
+        Checks.lump(x, "##.*13?", 0, 59);
+        CHECKS.due("may(0)", x.may(0), 3);
+        CHECKS.due("may(1)", x.may(1), 7);
+        CHECKS.due("clean()", x.clean(), 1);
     }
 
     private static void cleanByCells() {

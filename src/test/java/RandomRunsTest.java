@@ -2,7 +2,7 @@ import java.util.Random;
 
 /**
  * All promises: runs of calls chosen by chance (the same ones each time) on the program and on the Model,
- * every answer of the one held against that of the other.
+ * every answer of the one held against that of the other. Other runs: java RandomRunsTest END FIRST.
  */
 public final class RandomRunsTest {
     private static final Checks CHECKS = new Checks();
@@ -19,9 +19,13 @@ public final class RandomRunsTest {
     }
 
     public static void main(String[] args) {
-        int runs = args.length > 0 ? Integer.parseInt(args[0]) : 1200;
-        for (int run = 0; run < runs; run++) {
+        int end = args.length > 0 ? Integer.parseInt(args[0]) : 1200;
+        int first = args.length > 1 ? Integer.parseInt(args[1]) : 0;
+        for (int run = first; run < end; run++) {
             new RandomRunsTest(run).run();
+            if (run % 4 == 0) {
+                new RandomRunsTest(run).runCrowded();
+            }
         }
         CHECKS.finish();
     }
@@ -67,6 +71,54 @@ public final class RandomRunsTest {
         due("digest()", x.digest(), m.digest());
     }
 
+    /** Few RINGS, and LUMPS that seldom AGREE: what can still follow hangs on each step of a search. */
+    private void runCrowded() {
+        int rings = 2 + chance.nextInt(3);
+        int marks = 3 + chance.nextInt(6);
+        String ring = someMarks(marks + chance.nextInt(17 - marks));
+        for (int k = 0; k < rings; k++) {
+            write(ring);
+            due("ring()", x.ring(), m.ring());
+            if (k > 0 && chance.nextInt(4) == 0) {
+                int day = chance.nextInt(60);
+                due("anew(" + k + ", " + (k - 1) + ", " + day + ")", x.anew(k, k - 1, day), m.anew(k, k - 1, day));
+            }
+            if (chance.nextInt(3) == 0) {
+                int from = chance.nextInt(60), to = from + chance.nextInt(60 - from);
+                due("held(" + k + ", " + k + ", " + from + ", " + to + ")", x.held(k, k, from, to),
+                    m.held(k, k, from, to));
+            }
+        }
+        int lumps = rings + 1 + chance.nextInt(8 - rings);
+        int hidden = chance.nextInt(40);
+        for (int k = 0; k < lumps; k++) {
+            crowdedLump(ring, hidden);
+            due("digest() with " + (k + 1) + " LUMPS", x.digest(), m.digest());
+        }
+        for (int k = 0; k < 4; k++) {
+            int bits = chance.nextInt(1 << lumps);
+            due("aside(" + bits + ")", x.aside(bits), m.aside(bits));
+            due("digest()", x.digest(), m.digest());
+        }
+    }
+
+    /** One that shows some of the RING's marks: of two such ones each is EARLIER, or they come in order. */
+    private void crowdedLump(String ring, int hidden) {
+        StringBuilder s = new StringBuilder(signs(Model.turn(Model.grid(ring), chance.nextInt(4))));
+        for (int i = 0; i < 16; i++) {
+            if (chance.nextInt(3) == 0) {
+                s.setCharAt(i, '.');
+            }
+            if (chance.nextInt(100) < hidden) {
+                s.setCharAt(i, '?');
+            }
+        }
+        write(s.toString());
+        int from = chance.nextInt(3) == 0 ? chance.nextInt(60) : 0;
+        int to = chance.nextInt(3) == 0 ? from + chance.nextInt(60 - from) : 59;
+        due("lump(" + from + ", " + to + ", 1, 1)", x.lump(from, to, 1, 1), m.lump(from, to, 1, 1));
+    }
+
     private void type(int b) {
         due("type(" + b + ")", x.type(b), m.type(b));
     }
@@ -97,6 +149,18 @@ public final class RandomRunsTest {
             }
             i += run;
         }
+    }
+
+    private String someMarks(int many) {
+        StringBuilder s = new StringBuilder("................");
+        for (int left = many; left > 0;) {
+            int cell = chance.nextInt(16);
+            if (s.charAt(cell) == '.') {
+                s.setCharAt(cell, '#');
+                left--;
+            }
+        }
+        return s.toString();
     }
 
     private String someMarks() {

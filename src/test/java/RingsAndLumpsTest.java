@@ -150,6 +150,9 @@ public final class RingsAndLumpsTest {
         CHECKS.due("read(1) of wrong DAYS", x.read(1), 0);
         fill(x, 1, 2, 2, 0, 9);
         CHECKS.due("read(1) of a part", x.read(1), 0);
+        fill(x, 1, 2, 2, 0, 9, 20);
+        fill(x, 1, 2, 2, 0, 9);
+        CHECKS.due("read(1) of a part of what was whole", x.read(1), 0);
         x.sheet(1, 2, 0);
         CHECKS.due("read(1) of nothing", x.read(1), 0);
         CHECKS.due("count(4)", x.count(4), 5);
