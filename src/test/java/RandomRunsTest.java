@@ -73,7 +73,7 @@ public final class RandomRunsTest {
 
     /** Few RINGS, and LUMPS that seldom AGREE: what can still follow hangs on each step of a search. */
     private void runCrowded() {
-        int rings = 2 + chance.nextInt(3);
+        int rings = 2 + chance.nextInt(2);
         int marks = 3 + chance.nextInt(6);
         String ring = someMarks(marks + chance.nextInt(17 - marks));
         for (int k = 0; k < rings; k++) {
@@ -89,7 +89,7 @@ public final class RandomRunsTest {
                     m.held(k, k, from, to));
             }
         }
-        int lumps = rings + 1 + chance.nextInt(8 - rings);
+        int lumps = rings + 1 + chance.nextInt(chance.nextInt(8) == 0 ? 8 - rings : 3);
         int hidden = chance.nextInt(40);
         for (int k = 0; k < lumps; k++) {
             crowdedLump(ring, hidden);
