@@ -5,8 +5,12 @@ import java.lang.reflect.Method;
 import java.lang.reflect.Modifier;
 import java.nio.file.Files;
 import java.nio.file.Path;
+import java.util.Map;
 import java.util.Set;
+import java.util.TreeMap;
 import java.util.TreeSet;
+import java.util.regex.Matcher;
+import java.util.regex.Pattern;
 
 /** The public face, and the rules of LANGUAGE.md that can be seen without a compiler of one's own. */
 public final class FaceTest {
@@ -19,13 +23,18 @@ public final class FaceTest {
     private static final String[] FORBIDDEN = {"throw", "try", "catch", "synchronized", "assert", "import", "package",
         "->", "::", "Exact(", "Random", "Thread", "nanoTime", "currentTimeMillis", "hashCode", "toString", "instanceof",
         "lambda", "protected", "static {"};
+    private static final Set<String> LIBRARY = Set.of("Integer.bitCount", "Integer.MIN_VALUE", "Long.bitCount",
+        "Math.max", "Math.min", "System.arraycopy");
     private static final int MOST_LINES = 60;
+    private static final int MOST_DEEP = 8;
 
     public static void main(String[] args) throws IOException {
         constants();
         methods();
         nestedClasses();
         source();
+        library();
+        callsInCalls();
         CHECKS.finish();
     }
 
@@ -99,7 +108,7 @@ public final class FaceTest {
 
     private static void source() throws IOException {
         String text = Files.readString(Path.of("src/main/java/ClaySeals.java"));
-        String code = text.replaceAll("(?s)/\\*.*?\\*/", "").replaceAll("//[^\n]*", "");
+        String code = code();
         for (String word : FORBIDDEN) {
             boolean isWord = Character.isLetter(word.charAt(0)) && Character.isLetter(word.charAt(word.length() - 1));
             boolean has = isWord ? code.matches("(?s).*\\b" + word + "\\b.*") : code.contains(word);
@@ -121,5 +130,57 @@ public final class FaceTest {
                 begun = number;
             }
         }
+    }
+
+    private static String code() throws IOException {
+        String text = Files.readString(Path.of("src/main/java/ClaySeals.java"));
+        return text.replaceAll("(?s)/\\*.*?\\*/", "").replaceAll("//[^\n]*", "");
+    }
+
+    private static void library() throws IOException {
+        Matcher used = Pattern.compile("\\b(Integer|Long|Short|Byte|Math|System|Arrays|String\\w*|List|Character)\\b(\\.\\w+)?")
+            .matcher(code());
+        while (used.find()) {
+            CHECKS.due(used.group() + " is of the library that may be used", LIBRARY.contains(used.group()) ? 1 : 0, 1);
+        }
+    }
+
+    /** By names alone: methods of one name count as one, so a row of calls is rather told too long than too short. */
+    private static void callsInCalls() throws IOException {
+        Map<String, String> bodies = new TreeMap<>();
+        Matcher method = Pattern.compile("(?ms)^( {4}| {8})(?:public |private )(?:static )?(?:[\\w\\[\\]]+ )?(\\w+)\\([^)]*\\) \\{\n(.*?)^\\1\\}")
+            .matcher(code());
+        while (method.find()) {
+            bodies.merge(method.group(2), method.group(3), String::concat);
+        }
+        CHECKS.due("methods are found", bodies.size() > FACE.length ? 1 : 0, 1);
+        Map<String, Set<String>> calls = new TreeMap<>();
+        bodies.forEach((name, body) -> {
+            Set<String> called = new TreeSet<>();
+            Matcher call = Pattern.compile("(?<![\\w.])((?:\\w+\\.)*)(\\w+)\\(").matcher(body);
+            while (call.find()) {
+                if (bodies.containsKey(call.group(2))) {
+                    called.add(call.group(2));
+                }
+            }
+            calls.put(name, called);
+        });
+        for (String name : bodies.keySet()) {
+            int deep = depth(name, calls, new TreeSet<>());
+            CHECKS.due(name + " goes " + deep + " calls deep", deep <= MOST_DEEP ? 1 : 0, 1);
+        }
+        CHECKS.due("digest goes deepest", depth("digest", calls, new TreeSet<>()) >= 6 ? 1 : 0, 1);
+    }
+
+    private static int depth(String name, Map<String, Set<String>> calls, Set<String> open) {
+        int deepest = 0;
+        open.add(name);
+        for (String called : calls.get(name)) {
+            if (!open.contains(called)) {
+                deepest = Math.max(deepest, depth(called, calls, open));
+            }
+        }
+        open.remove(name);
+        return 1 + deepest;
     }
 }
